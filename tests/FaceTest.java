@@ -47,6 +47,10 @@ public final class FaceTest {
             due.is(inner + " is static",
                     Modifier.isStatic(inner.getModifiers())
                             && !Modifier.isPublic(inner.getModifiers()) ? 1 : 0, 1);
+            for (Method method : inner.getDeclaredMethods()) {
+                due.is(method + " has a name of its own",
+                        names.contains(method.getName()) ? 1 : 0, 0);
+            }
         }
         Constructor<?>[] constructors = OldBronze.class.getDeclaredConstructors();
         due.is("constructors", constructors.length, 1);

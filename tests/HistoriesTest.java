@@ -227,6 +227,32 @@ public final class HistoriesTest {
         due.is("thing 0 parts then", x.next(), 0);
         x.weigh(3, 0, 0);
         due.is("none fits", x.next(), Due.NONE);
+
+        OldBronze y = new OldBronze();
+        for (int grams : new int[] {9, 8000, 880000, 80, 0}) {
+            y.thing(0, grams);
+        }
+        for (int i = 0; i < 6; i++) {
+            y.paper(1 + i / 2, 4, 1 + i % 2);
+        }
+        // thing 4 has other GRAMS behind each of them; 1, 2, 3 each four of their own
+        due.is("64 fit", y.fits(0), 64);
+        due.is("of 64", y.next(), 4);
+        y.weigh(2, 660000, 0);
+        due.is("of 16, where thing 2 has but one", y.next(), 4);
+        y.weigh(1, 8000, 0);
+        due.is("of 4, where thing 3 parts as well", y.next(), 3);
+
+        OldBronze z = new OldBronze();
+        z.thing(0, 8);
+        z.thing(0, 8);
+        z.paper(0, 1, 8);
+        z.paper(0, 1, 8);
+        // thing 0: 8, 0, 0, 0; thing 1: 8, 16, 16, 16
+        due.is("both part alike", z.next(), 0);
+        z.paper(1, 0, 1);
+        // thing 0: 8, 0, 0, 0, 9, 2, 2, 2; thing 1: 8, 16, .., 7, 14, ..
+        due.is("both part alike again", z.next(), 0);
     }
 
     private static void most() {
@@ -249,6 +275,11 @@ public final class HistoriesTest {
         x.melt(0, 8);
         due.is("of 0 without 0", x.most(0, 3, 0), 4);
         due.is("of 0 without 0, holds", x.most(0, 3, 1), 666666);
+
+        x.thing(0, 1);
+        due.is("of the last by 1", x.most(3, 1, 0), 16);
+        due.is("of the last by 1, holds", x.most(3, 1, 1), 1000000);
+        due.is("of 1 by 3, holds", x.most(1, 3, 1), 1000000);
 
         OldBronze y = new OldBronze();
         y.thing(0, 1);

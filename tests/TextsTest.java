@@ -11,6 +11,7 @@ public final class TextsTest {
         textErrors();
         untelling();
         heldWithin();
+        manyTexts();
         due.end();
     }
 
@@ -212,6 +213,18 @@ public final class TextsTest {
         due.is("there was one", x.untell(0), 1);
         due.is("there is none now", x.untell(0), 0);
         due.is("without a text", x.thingIs(0, 10), 1009);
+    }
+
+    private static void manyTexts() {
+        OldBronze x = new OldBronze();
+        x.thing(100, 1000);
+        for (int i = 0; i < 9; i++) {
+            String text = "1+1+1+1+1+1+1+1+1+1+1+1+1+1+1+" + i;
+            due.is("text " + i, Due.text(x, text, 0), 1);
+            due.is("value " + i, x.thingIs(0, 10), 15 + i);
+            due.is("a fault " + i, Due.text(x, "g+g+g+g+g+g+g+g+g+", 0), -28);
+            due.is("value still " + i, x.thingIs(0, 10), 15 + i);
+        }
     }
 
     private static void heldWithin() {

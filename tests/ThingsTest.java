@@ -108,6 +108,8 @@ public final class ThingsTest {
         due.is("all tin", x.thingIs(9, 10), 0);
         x.set(9, 3, 9989999);
         due.is("nearly all tin", x.thingIs(9, 10), 2);
+        x.thing(500, 3000);
+        due.is("howitzer of 3000 grams", x.thingIs(10, 10), 503);
     }
 
     private static void kinds() {
@@ -145,9 +147,14 @@ public final class ThingsTest {
             due.is("trace was", x.set(0, what, 50), 0);
             due.is("trace is", x.set(0, what, what), 50);
             due.is("trace is now", x.thingIs(0, what), what);
+            due.is("trace to 0", x.set(0, what, 0), what);
+            due.is("trace from 0", x.set(0, what, what), 0);
             due.is("trace above grams", x.set(0, what, 51), Due.BEYOND);
             due.is("trace below 0", x.set(0, what, -1), Due.BEYOND);
         }
+        due.is("kind to 0", x.set(0, 0, 0), 5);
+        due.is("m to 0", x.set(0, 1, 0), 99);
+        x.set(0, 1, 99);
         due.is("kind 7", x.set(0, 0, 7), Due.BEYOND);
         due.is("kind -1", x.set(0, 0, -1), Due.BEYOND);
         due.is("m 100", x.set(0, 1, 100), Due.BEYOND);
@@ -279,6 +286,15 @@ public final class ThingsTest {
         x.thing(0, 1);
         due.is("told STATE", x.told(3), 1);
         due.is("told FULL", x.told(4), 3);
+
+        OldBronze y = new OldBronze();
+        for (int i = 0; i < 10; i++) {
+            y.thing(0, 8);
+        }
+        y.melt(0, 8);
+        due.is("room for both", y.cast(0, 2, 50), 10);
+        due.is("twelve", y.count(0), 12);
+        due.is("the scrap", y.thingIs(11, 2), 5);
     }
 
     private static void heldCast() {
@@ -327,6 +343,13 @@ public final class ThingsTest {
         due.is("z", x.count(10), z);
         due.is("years so far", x.count(6), 7);
         due.is("grams of all", x.count(5), all);
+
+        OldBronze w = new OldBronze();
+        int rest = (draw(1) >>> 8) % 100;
+        w.thing(rest, 100);
+        due.is("a rest of m", w.then(1, 0, 2), 100);
+        w.set(0, 1, rest + 1);
+        due.is("a rest below m", w.then(1, 0, 2), 99);
 
         OldBronze y = new OldBronze();
         due.is("years without things", y.years(60), 0);
