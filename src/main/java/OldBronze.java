@@ -93,7 +93,7 @@ public final class OldBronze {
     private int images;
 
     public OldBronze() {
-        for (int i = 0; i < SHEETS; i++) {
+        for (int i = 0; i < sheets.length; i++) {
             sheets[i] = new Sheet();
         }
     }
@@ -520,7 +520,7 @@ public final class OldBronze {
     }
 
     public int told(int k) {
-        return within(k, BEYOND, PARTED) ? refusals[k] : refuse(BEYOND);
+        return k >= BEYOND && k < refusals.length ? refusals[k] : refuse(BEYOND);
     }
 
     // ---- what the acts ask
