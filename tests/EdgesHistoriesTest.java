@@ -31,6 +31,7 @@ public final class EdgesHistoriesTest {
         falseOnes();
         spanOfOneFit();
         spanOfWeighedFits();
+        spanOfEachFirstThing();
         whatOfSpan();
         nextWithoutThings();
         nextOfOneThing();
@@ -447,6 +448,20 @@ public final class EdgesHistoriesTest {
         x.weigh(1, 1250, 50);
         due.is("the least of the last", x.span(1, 0, 0), 333333);
         due.is("the greatest of the last", x.span(1, 0, 1), 384615);
+    }
+
+    // "of a FIRST THING", 0 .. 3 each.
+    private static void spanOfEachFirstThing() {
+        OldBronze x = made(800, 800, 800, 800, 800);
+        for (int from = 0; from < 4; from++) {
+            x.paper(from, 4, 8);
+        }
+        for (int first = 0; first < 4; first++) {
+            due.is("the least of " + first, x.span(4, first, 0), 0);
+            // the last of the four came to 800 alone, each other one to more
+            due.is("the greatest of " + first, x.span(4, first, 1), 500000);
+            due.is("its own", x.span(first, first, 0), 1000000);
+        }
     }
 
     // "BEYOND: THING, FIRST THING 0 .. 3."

@@ -11,6 +11,8 @@ public final class EdgesThingsTest {
         atMostTwelveThings();
         gramsOfAThing();
         kindsAndNumbers();
+        kindsUnderKinds();
+        asOfNoKind();
         tracesUpToGrams();
         tracesUpToGramsAsTheyAre();
         holdsUpToAMillion();
@@ -43,6 +45,7 @@ public final class EdgesThingsTest {
         yearsAtOnce();
         yearsUpTo9999();
         yearsAhead();
+        whatOfYearsAhead();
         aheadOf9999();
         drawsWrap();
         anySeed();
@@ -119,6 +122,34 @@ public final class EdgesThingsTest {
         due.is("m to 100", x.set(0, 1, 100), Due.BEYOND);
         due.is("m to 0", x.set(0, 1, 0), 99);
         due.is("m to -1", x.set(0, 1, -1), Due.BEYOND);
+    }
+
+    // as: "KIND: it is not of that KIND, nor of one under it."
+    private static void kindsUnderKinds() {
+        int[] above = {0, 0, 0, 0, 1, 2, 3};
+        for (int kind = 0; kind < 7; kind++) {
+            for (int as = 0; as < 7; as++) {
+                OldBronze x = new OldBronze();
+                x.thing(100 * kind, 9);
+                boolean isSo = as == 0 || as == kind || as == above[kind];
+                due.is("kind " + kind + " as " + as, x.as(0, as), isSo ? 9 : Due.KIND);
+                due.is("told", x.told(5), isSo ? 0 : 1);
+            }
+        }
+    }
+
+    // as: "GRAMS. BEYOND." KINDS are 0 .. 6; of no GRAMS the answer is 0.
+    private static void asOfNoKind() {
+        OldBronze x = new OldBronze();
+        due.is("no things", x.as(0, 0), Due.BEYOND);
+        x.thing(100, 0);
+        due.is("kind -1", x.as(0, -1), Due.BEYOND);
+        due.is("kind 0", x.as(0, 0), 0);
+        due.is("kind 6", x.as(0, 6), Due.KIND);
+        due.is("kind 7", x.as(0, 7), Due.BEYOND);
+        due.is("thing -1", x.as(-1, 0), Due.BEYOND);
+        due.is("thing 1", x.as(1, 0), Due.BEYOND);
+        due.is("no thing of no kind it has", x.as(1, 6), Due.BEYOND);
     }
 
     // "TRACES (grams of tin, lead, silver; 0 .. GRAMS each)".
@@ -630,6 +661,23 @@ public final class EdgesThingsTest {
         due.is("none went by", x.count(6) + x.thingIs(0, 2), 90000);
         due.is("as they go by", x.years(60), first + second);
         due.is("of the first", x.thingIs(0, 2), first);
+    }
+
+    // then: "of a THING what (0 .. 10) as in thingIs(). BEYOND."
+    private static void whatOfYearsAhead() {
+        OldBronze x = new OldBronze();
+        due.is("no things", x.then(0, 0, 0), Due.BEYOND);
+        x.thing(142, 70);
+        x.set(0, 5, 3);
+        for (int n = 0; n <= 60; n += 60) {
+            for (int what = -1; what <= 11; what++) {
+                boolean isThere = what >= 0 && what <= 10;
+                due.is("what " + what, x.then(n, 0, what),
+                        isThere ? x.thingIs(0, what) : Due.BEYOND);
+            }
+            due.is("thing -1", x.then(n, -1, 0), Due.BEYOND);
+            due.is("thing 1", x.then(n, 1, 0), Due.BEYOND);
+        }
     }
 
     // The same: YEARS so far bound what goes by, not what would.

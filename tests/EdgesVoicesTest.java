@@ -9,6 +9,7 @@ public final class EdgesVoicesTest {
         voicesOfAThing();
         bodiesThatWrap();
         partsAreCut();
+        whatIsJoined();
         partsOfTheLeastInt();
         partedWhereNumbersAreAlike();
         partedIsAllThatIsAnswered();
@@ -80,6 +81,15 @@ public final class EdgesVoicesTest {
         due.is("7 by -2", x.voice(2, 3, 7), -3);
         due.is("-7 by -2", x.voice(2, 3, -7), 3);
         due.is("0 by 3", x.voice(1, 3, 0), 0);
+    }
+
+    // "21 parts: super.parts(x) + weighs(1)"; "51 melts: super.melts(x) ^ k".
+    private static void whatIsJoined() {
+        OldBronze x = made(0, 103, 405, 409, 0, 0, 0, 450);
+        due.is("a BELL: 9 by 2, and 2 times 1 + 1 - 4", x.voice(1, 3, 9), 4 - 4);
+        due.is("a CHIME: 9 by 3, and 6 times 1 + 2 - 4", x.voice(2, 3, 9), 3 - 6);
+        due.is("a CHIME: 6 times 9 + 3 - 4, less 9, ^ 3", x.voice(3, 2, 9), 39 ^ 3);
+        due.is("a CHIME: 6 times 4 + 7 - 4, less 50, ^ 7", x.voice(7, 2, 4), -8 ^ 7);
     }
 
     // The same: the least int by -1 wraps.

@@ -1439,7 +1439,8 @@ public final class OldBronze {
 
         /** Asked so that no sum can wrap. */
         boolean hasRange(int i, int n) {
-            return i >= 0 && n >= 0 && n <= size && i <= size - n;
+            int end = Math.min(size, numbers.length);
+            return i >= 0 && n >= 0 && n <= end && i <= end - n;
         }
 
         int at(int i) {
